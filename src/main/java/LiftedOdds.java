@@ -60,10 +60,10 @@ public final class LiftedOdds {
     }
 
     public int atom(int relation, int u, int v) {
-        if (!isBelow(relation, RELATIONS) || !isBelow(u, VARIABLES) || !isBelow(v, VARIABLES)) {
+        if (relation < 0 || relation >= RELATIONS || asked[relation]) {
             return NONE;
         }
-        if (asked[relation]) {
+        if (u < 0 || u >= VARIABLES || v < 0 || v >= VARIABLES) {
             return NONE;
         }
         asked[relation] = true;
@@ -141,12 +141,12 @@ public final class LiftedOdds {
         return best;
     }
 
-    private static boolean isBelow(int number, int bound) {
-        return number >= 0 && number < bound;
-    }
-
+    /** NONE if there is no such row. */
     private static int rowIndex(int relation, int a, int b) {
-        if (!isBelow(relation, RELATIONS) || !isBelow(a, VALUES) || !isBelow(b, VALUES)) {
+        if (relation < 0 || relation >= RELATIONS) {
+            return NONE;
+        }
+        if (a < 0 || a >= VALUES || b < 0 || b >= VALUES) {
             return NONE;
         }
         return (relation * VALUES + a) * VALUES + b;

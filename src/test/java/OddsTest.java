@@ -54,13 +54,15 @@ public final class OddsTest {
     }
 
     private static void variablesMayShareAValue() {
-        LiftedOdds x = new LiftedOdds();
-        x.atom(0, 0, 1);
-        x.atom(1, 1, 2);
-        x.row(0, 1, 1, 5);
-        x.row(1, 1, 1, 5);
-        checks.due("one value for all: weight", x.weight(), 25);
-        checks.due("one value for all: heaviest", x.heaviest(), 3);
+        for (int value = 0; value < 3; value++) {
+            LiftedOdds x = new LiftedOdds();
+            x.atom(0, 0, 1);
+            x.atom(1, 1, 2);
+            x.row(0, value, value, 5);
+            x.row(1, value, value, 5);
+            checks.due("all variables " + value + ": weight", x.weight(), 25);
+            checks.due("all variables " + value + ": heaviest", x.heaviest(), 3);
+        }
     }
 
     private static void greatestAmounts() {
@@ -92,6 +94,9 @@ public final class OddsTest {
             checks.due("weightWithout of a wrong b", x.weightWithout(0, 0, wrong[k]), 4);
             checks.due("weightWithout of a wrong or empty relation", x.weightWithout(wrong[k], 0, 1), 4);
         }
+        // A wrong triple that comes out at the index of the listed row.
+        checks.due("weightWith(1, -2, -2)", x.weightWith(1, -2, -2), 0);
+        checks.due("weightWithout(1, -2, -2)", x.weightWithout(1, -2, -2), 4);
         checks.due("weightWith of a row that is not listed", x.weightWith(0, 1, 0), 0);
         checks.due("weightWithout of a row that is not listed", x.weightWithout(0, 1, 0), 4);
         x.drop(0, 0, 1);

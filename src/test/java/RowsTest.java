@@ -77,6 +77,11 @@ public final class RowsTest {
             checks.due("listed row of a wrong weight", x.row(0, 0, 0, wrongWeights[k]), -1);
             checks.due("new row of a wrong weight", x.row(1, 0, 0, wrongWeights[k]), -1);
         }
+        // Wrong triples that come out at the index of a right row.
+        checks.due("row(1, -1, 0, 5)", x.row(1, -1, 0, 5), -1);
+        checks.due("row(1, -3, 0, 5)", x.row(1, -3, 0, 5), -1);
+        checks.due("row(1, 0, -1, 5)", x.row(1, 0, -1, 5), -1);
+        checks.due("row(-1, 3, 0, 5)", x.row(-1, 3, 0, 5), -1);
         checks.due("row(1, -1, 3, 5)", x.row(1, -1, 3, 5), -1);
         checks.due("weightWith after refusals", x.weightWith(0, 0, 0), 4);
         checks.due("worlds after refusals", x.worlds(), 2);
@@ -105,6 +110,7 @@ public final class RowsTest {
         x.row(0, 1, 1, 6);
         x.row(0, 2, 2, 7);
         x.atom(0, 0, 0);
+        checks.due("weight before the drop", x.weight(), 940);
         checks.due("drop the middle row", x.drop(0, 1, 1), 2);
         checks.due("weight after the drop", x.weight(), 85);
         checks.due("weightWith of the dropped row", x.weightWith(0, 1, 1), 0);
@@ -129,7 +135,8 @@ public final class RowsTest {
             checks.due("drop of a wrong a", x.drop(0, wrongValues[k], 1), -1);
             checks.due("drop of a wrong b", x.drop(0, 0, wrongValues[k]), -1);
         }
-        // Index 1 could be reached by a wrong triple if only the index were looked at.
+        // Wrong triples that come out at the index of the listed row.
+        checks.due("drop(1, -2, -2)", x.drop(1, -2, -2), -1);
         checks.due("drop(0, -1, 4)", x.drop(0, -1, 4), -1);
         checks.due("drop(-1, 3, 1)", x.drop(-1, 3, 1), -1);
         checks.due("worlds after refusals", x.worlds(), 2);
