@@ -10,6 +10,7 @@ public final class ModelTest {
             mixedRun(run);
         }
         everyPairOfAtoms();
+        nestedOfEveryQuery();
         checks.end();
     }
 
@@ -77,6 +78,24 @@ public final class ModelTest {
             x.atom(3, pair / 3 % 3, pair % 3);
             model.atom(3, pair / 3 % 3, pair % 3);
             compare("pair " + pair + ": ", x, model, 3, 1, 1);
+        }
+    }
+
+    /** Each relation has no atom or one of nine, so there are 10 to the power 4 queries. */
+    private static void nestedOfEveryQuery() {
+        for (int query = 0; query < 10_000; query++) {
+            LiftedOdds x = new LiftedOdds();
+            PlainModel model = new PlainModel();
+            int rest = query;
+            for (int relation = 0; relation < 4; relation++) {
+                int pair = rest % 10;
+                rest /= 10;
+                if (pair < 9) {
+                    x.atom(relation, pair / 3, pair % 3);
+                    model.atom(relation, pair / 3, pair % 3);
+                }
+            }
+            checks.due("query " + query + ": nested()", x.nested(), model.nested());
         }
     }
 }
